@@ -46,7 +46,7 @@ public final class Fencegate {
         search = new Search(program, mover);
         found = new Runs[KINDS];
         for (int kind = 0; kind < KINDS; kind++) {
-            found[kind] = new Runs();
+            found[kind] = new Runs(STATES);
         }
         meetings = new Meetings();
         drawn = new Graphs(program);
@@ -148,7 +148,7 @@ public final class Fencegate {
         for (int core = 0; core < CORES; core++) {
             for (int move = 0; move < MOVES; move++) {
                 System.arraycopy(now, 0, tried, 0, WORDS);
-                if (mover.moves(tried, core, move, kindNow, 0)) {
+                if (mover.moves(tried, core, move, kindNow)) {
                     number++;
                 }
             }
@@ -164,7 +164,7 @@ public final class Fencegate {
         int length = runs.lengthTo(index);
         for (int i = 0; i < length; i++) {
             int link = runs.linkAt(index, i);
-            mover.moves(now, Runs.coreOf(link), Runs.moveOf(link), kindNow, 0);
+            mover.moves(now, Runs.coreOf(link), Runs.moveOf(link), kindNow);
         }
         return length;
     }
@@ -396,7 +396,11 @@ public final class Fencegate {
     private int fewest(char kind) {
         Outcomes shown = runsOf(kind).ends;
         Outcomes strict = runsOf('s').ends;
-        return fenceSearch.seek(kindIndex(kind), shown, strict);
+        int index = kindIndex(kind);
+        if (!fenceSearch.known[index]) {
+            fenceSearch.seek(index, shown, strict);
+        }
+        return fenceSearch.number[index];
     }
 
     /** The instructions of all cores, and the first numbers of the cells. */
@@ -554,7 +558,7 @@ public final class Fencegate {
         static int withStore(int word, int cell, int number) {
             int mark = (word & NEXT_MARK) != 0 ? MARK : 0;
             int store = mark | cell << 3 | number;
-            int shift = QUEUE + STORE * lengthOf(word);
+            int shift = QUEUE + STORE * (word >> LENGTH & 3);
             return (word & ~NEXT_MARK | store << shift) + (1 << LENGTH);
         }
 
@@ -567,13 +571,13 @@ public final class Fencegate {
 
         /** What a load of a core has: its own latest store that waits hides the cell. */
         static int loaded(int word, int cells, int cell) {
-            for (int i = lengthOf(word) - 1; i >= 0; i--) {
-                int store = storeOf(word, i);
-                if (targetOf(store) == cell) {
-                    return numberOf(store);
+            for (int i = (word >> LENGTH & 3) - 1; i >= 0; i--) {
+                int store = word >> QUEUE + STORE * i;
+                if ((store >> 3 & 3) == cell) {
+                    return store & 7;
                 }
             }
-            return cellOf(cells, cell);
+            return cells >> 3 * cell & 7;
         }
     }
 
@@ -586,8 +590,8 @@ public final class Fencegate {
         }
 
         /** Does what stepAt would tell by this move; a state in which it can't be done stays as it is. */
-        boolean moves(int[] state, int core, int move, int kind, int fenced) {
-            return move == 0 ? instruct(state, core, kind, fenced) : release(state, core, move - 1, kind);
+        boolean moves(int[] state, int core, int move, int kind) {
+            return move == 0 ? instruct(state, core, kind, 0) : release(state, core, move - 1, kind);
         }
 
         /** Does a core's instruction; fenced has a bit for each instruction with a fence put ahead of it. */
@@ -709,7 +713,8 @@ public final class Fencegate {
         private int below(int wanted) {
             int low = 0;
             int high = size;
-            while (low < high) {
+            // each round leaves half of them: 31 rounds are more than any number of them needs
+            for (int round = 0; round < 31 && low < high; round++) {
                 int middle = (low + high) / 2;
                 if (key[middle] < wanted) {
                     low = middle + 1;
@@ -767,7 +772,12 @@ public final class Fencegate {
         int states;
         final Outcomes ends = new Outcomes();
         /** For each state, 16 times the one ahead of it, plus 4 times the core, plus the move that leads here. */
-        private final int[] link = new int[STATES];
+        private final int[] link;
+
+        /** Links for this many states; without any, outcomes can be told, but no runs. */
+        Runs(int links) {
+            link = new int[Math.max(0, links)];
+        }
 
         static int coreOf(int link) {
             return link >> 2 & 3;
@@ -778,13 +788,13 @@ public final class Fencegate {
         }
 
         void setLink(int state, int before, int core, int move) {
-            if (state >= 0 && state < STATES) {
+            if (state >= 0 && state < link.length) {
                 link[state] = 16 * before + 4 * core + move;
             }
         }
 
         private int stateBefore(int state) {
-            return state >= 0 && state < STATES ? link[state] >> 4 : 0;
+            return state >= 0 && state < link.length ? link[state] >> 4 : 0;
         }
 
         int lengthTo(int outcome) {
@@ -800,7 +810,7 @@ public final class Fencegate {
             for (int i = lengthTo(outcome) - 1; i > step; i--) {
                 at = stateBefore(at);
             }
-            return at >= 0 && at < STATES ? link[at] : 0;
+            return at >= 0 && at < link.length ? link[at] : 0;
         }
 
         long lengthOfAll() {
@@ -849,7 +859,9 @@ public final class Fencegate {
                 for (int turn = 0; turn < CORES * MOVES; turn++) {
                     int core = turn / MOVES;
                     int move = turn % MOVES;
-                    if (mover.moves(to, core, move, kind, fenced)) {
+                    boolean done = move == 0 ? mover.instruct(to, core, kind, fenced)
+                            : mover.release(to, core, move - 1, kind);
+                    if (done) {
                         if (remember()) {
                             runs.setLink(count - 1, head, core, move);
                         }
@@ -982,9 +994,9 @@ public final class Fencegate {
 
         private final Program program;
         private final Search search;
-        private final Runs fencedRuns = new Runs();
-        private final boolean[] known = new boolean[KINDS];
-        private final int[] number = new int[KINDS];
+        private final Runs fencedRuns = new Runs(0);
+        final boolean[] known = new boolean[KINDS];
+        final int[] number = new int[KINDS];
         private final int[] fence = new int[MOST * KINDS];
         /** The instructions that a fence ahead of them can hold up, in their order. */
         private final int[] choice = new int[INSTRUCTIONS];
@@ -1003,34 +1015,23 @@ public final class Fencegate {
             return 10 * (at / PLACES) + at % PLACES;
         }
 
-        /** How many are needed, or NONE if two are not enough. */
-        int seek(int kind, Outcomes shown, Outcomes strict) {
-            if (!known[kind]) {
-                boolean isFree = shown.sharedWith(strict) == shown.size;
-                number[kind] = isFree ? 0 : seekSome(kind, strict);
-                known[kind] = true;
+        /** Finds how many are needed, NONE if two are not enough, and where they are put. */
+        void seek(int kind, Outcomes shown, Outcomes strict) {
+            boolean found = shown.sharedWith(strict) == shown.size;
+            int choices = found ? 0 : fillChoices();
+            int needed = 0;
+            for (int i = 0; i < choices && !found; i++) {
+                found = isEnough(kind, choice[i], choice[i], strict);
+                needed = 1;
             }
-            return number[kind];
-        }
-
-        private int seekSome(int kind, Outcomes strict) {
-            int choices = fillChoices();
-            for (int i = 0; i < choices; i++) {
-                if (isEnough(kind, 1 << choice[i], strict)) {
-                    fence[MOST * kind] = choice[i];
-                    return 1;
+            for (int i = 0; i < choices && !found; i++) {
+                for (int j = i + 1; j < choices && !found; j++) {
+                    found = isEnough(kind, choice[i], choice[j], strict);
+                    needed = 2;
                 }
             }
-            for (int i = 0; i < choices; i++) {
-                for (int j = i + 1; j < choices; j++) {
-                    if (isEnough(kind, 1 << choice[i] | 1 << choice[j], strict)) {
-                        fence[MOST * kind] = choice[i];
-                        fence[MOST * kind + 1] = choice[j];
-                        return 2;
-                    }
-                }
-            }
-            return NONE;
+            number[kind] = found ? needed : NONE;
+            known[kind] = true;
         }
 
         /**
@@ -1052,8 +1053,11 @@ public final class Fencegate {
             return choices;
         }
 
-        private boolean isEnough(int kind, int fenced, Outcomes strict) {
-            search.explore(kind, fenced, fencedRuns);
+        /** Tries fences ahead of these instructions, or of one, if they are the same; those tried last stay. */
+        private boolean isEnough(int kind, int first, int second, Outcomes strict) {
+            fence[MOST * kind] = first;
+            fence[MOST * kind + 1] = second;
+            search.explore(kind, 1 << first | 1 << second, fencedRuns);
             Outcomes ends = fencedRuns.ends;
             return !fencedRuns.tooMany && ends.sharedWith(strict) == ends.size;
         }
@@ -1064,6 +1068,8 @@ public final class Fencegate {
         int size;
         final int[] core = new int[INSTRUCTIONS];
         final int[] letter = new int[INSTRUCTIONS];
+        final boolean[] reads = new boolean[INSTRUCTIONS];
+        final boolean[] writes = new boolean[INSTRUCTIONS];
         final int[] cell = new int[INSTRUCTIONS];
         final int[] read = new int[INSTRUCTIONS];
         final int[] written = new int[INSTRUCTIONS];
@@ -1145,20 +1151,14 @@ public final class Fencegate {
             }
             core[size] = itsCore;
             letter[size] = itsLetter;
+            reads[size] = Program.isReader(itsLetter);
+            writes[size] = Program.isWriter(itsLetter);
             cell[size] = itsCell;
             read[size] = itsRead;
             written[size] = itsWritten;
             full[size] = fullNow;
             some[size] = someNow;
             size++;
-        }
-
-        boolean reads(int thing) {
-            return Program.isReader(letter[thing]);
-        }
-
-        boolean writes(int thing) {
-            return Program.isWriter(letter[thing]);
         }
 
         boolean areNeighbours(int thing, int other) {
@@ -1202,7 +1202,10 @@ public final class Fencegate {
         private final int[] writers = new int[CELLS];
         /** A writer's spot in the order of its cell, from 1 on; a load's: that of what it reads from, 0 the first number. */
         private final int[] spot = new int[INSTRUCTIONS];
+        /** For each spot of each cell, the writer there, NONE for the first number. */
         private final int[] writerAt = new int[CELLS * SPOTS];
+        /** What stands there. */
+        private final int[] numberAt = new int[CELLS * SPOTS];
         /** For each kind, a row of the bits of what the order of the core keeps ahead of each thing. */
         private final int[] kept = new int[KINDS * INSTRUCTIONS];
         private final int[] ahead = new int[INSTRUCTIONS];
@@ -1232,7 +1235,7 @@ public final class Fencegate {
                 all += graphs;
                 if (graphs > 0) {
                     fillKept();
-                    Arrays.fill(writerAt, NONE);
+                    layFirstNumbers();
                     layWriter(this, 0);
                 }
                 goesOn = nextNumbers(reads);
@@ -1255,7 +1258,7 @@ public final class Fencegate {
         private void countWriters() {
             Arrays.fill(writers, 0);
             for (int thing = 0; thing < things.size; thing++) {
-                if (things.writes(thing)) {
+                if (things.writes[thing]) {
                     writers[things.cell[thing]]++;
                 }
             }
@@ -1265,7 +1268,7 @@ public final class Fencegate {
         private int countGraphs() {
             int graphs = 1;
             for (int thing = 0; thing < things.size; thing++) {
-                if (things.reads(thing)) {
+                if (things.reads[thing]) {
                     graphs *= countSources(thing);
                 }
             }
@@ -1281,7 +1284,7 @@ public final class Fencegate {
             int cell = things.cell[reader];
             int sources = program.first[cell] == things.read[reader] ? 1 : 0;
             for (int thing = 0; thing < things.size; thing++) {
-                boolean gives = thing != reader && things.cell[thing] == cell && things.writes(thing);
+                boolean gives = thing != reader && things.cell[thing] == cell && things.writes[thing];
                 if (gives && things.written[thing] == things.read[reader]) {
                     sources++;
                 }
@@ -1301,6 +1304,13 @@ public final class Fencegate {
             }
         }
 
+        private void layFirstNumbers() {
+            Arrays.fill(writerAt, NONE);
+            for (int cell = 0; cell < CELLS; cell++) {
+                numberAt[SPOTS * cell] = program.first[cell];
+            }
+        }
+
         /** Gives spots to the writers from this thing on, in each way that keeps the order of their cores. */
         private static void layWriter(Graphs graphs, int thing) {
             Things things = graphs.things;
@@ -1310,7 +1320,7 @@ public final class Fencegate {
                 }
                 return;
             }
-            if (!things.writes(thing)) {
+            if (!things.writes[thing]) {
                 layWriter(graphs, thing + 1);
                 return;
             }
@@ -1319,6 +1329,7 @@ public final class Fencegate {
             for (int at = graphs.writersAhead(thing) + 1; at <= most; at++) {
                 if (graphs.writerAt[row + at] == NONE) {
                     graphs.writerAt[row + at] = thing;
+                    graphs.numberAt[row + at] = things.written[thing];
                     graphs.spot[thing] = at;
                     layWriter(graphs, thing + 1);
                     graphs.writerAt[row + at] = NONE;
@@ -1333,13 +1344,14 @@ public final class Fencegate {
                 graphs.judge();
                 return;
             }
-            if (things.writes(thing)) {
+            if (things.writes[thing]) {
                 layLoad(graphs, thing + 1);
                 return;
             }
+            int row = SPOTS * things.cell[thing];
             int last = graphs.lastSpotFor(thing);
             for (int at = graphs.firstSpotFor(thing); at <= last; at++) {
-                if (graphs.numberAt(things.cell[thing], at) == things.read[thing]) {
+                if (graphs.numberAt[row + at] == things.read[thing]) {
                     graphs.spot[thing] = at;
                     layLoad(graphs, thing + 1);
                 }
@@ -1349,7 +1361,7 @@ public final class Fencegate {
         private int writersAhead(int thing) {
             int spotAhead = 0;
             for (int i = 0; i < thing; i++) {
-                if (things.writes(i) && things.areNeighbours(i, thing)) {
+                if (things.writes[i] && things.areNeighbours(i, thing)) {
                     spotAhead = Math.max(spotAhead, spot[i]);
                 }
             }
@@ -1369,7 +1381,7 @@ public final class Fencegate {
         private int lastSpotFor(int load) {
             int last = Math.min(writers[things.cell[load]], WRITERS);
             for (int i = load + 1; i < things.size; i++) {
-                if (things.writes(i) && things.areNeighbours(i, load)) {
+                if (things.writes[i] && things.areNeighbours(i, load)) {
                     last = Math.min(last, spot[i] - 1);
                 }
             }
@@ -1378,22 +1390,12 @@ public final class Fencegate {
 
         private boolean swapsFit() {
             for (int thing = 0; thing < things.size; thing++) {
-                boolean isSwap = things.reads(thing) && things.writes(thing);
-                if (isSwap && numberAt(things.cell[thing], spot[thing] - 1) != things.read[thing]) {
+                boolean isSwap = things.reads[thing] && things.writes[thing];
+                if (isSwap && numberAt[SPOTS * things.cell[thing] + spot[thing] - 1] != things.read[thing]) {
                     return false;
                 }
             }
             return true;
-        }
-
-        /** The writer at a spot of a cell, NONE for the first number. */
-        private int writerOf(int cell, int at) {
-            return at > 0 && at < SPOTS ? writerAt[SPOTS * cell + at] : NONE;
-        }
-
-        private int numberAt(int cell, int at) {
-            int writer = writerOf(cell, at);
-            return writer == NONE ? program.first[cell] : things.written[writer];
         }
 
         private void judge() {
@@ -1415,7 +1417,7 @@ public final class Fencegate {
                 key = Outcomes.withNumber(key, i, things.register[i]);
             }
             for (int cell = 0; cell < CELLS; cell++) {
-                key = Outcomes.withNumber(key, 2 * CORES + cell, numberAt(cell, writers[cell]));
+                key = Outcomes.withNumber(key, 2 * CORES + cell, numberAt[SPOTS * cell + writers[cell]]);
             }
             return key;
         }
@@ -1428,10 +1430,10 @@ public final class Fencegate {
             for (int thing = 0; thing < things.size; thing++) {
                 int cell = things.cell[thing];
                 int bits = kept[INSTRUCTIONS * kind + thing];
-                if (things.writes(thing)) {
-                    bits |= bitOf(writerOf(cell, spot[thing] - 1)) | loadsAt(cell, spot[thing] - 1);
+                if (things.writes[thing]) {
+                    bits |= bitOf(writerAt[SPOTS * cell + spot[thing] - 1]) | loadsAt(cell, spot[thing] - 1);
                 } else {
-                    int source = writerOf(cell, spot[thing]);
+                    int source = writerAt[SPOTS * cell + spot[thing]];
                     boolean counts = source != NONE && (kind == STRICT || things.core[source] != things.core[thing]);
                     bits |= counts ? bitOf(source) : 0;
                 }
@@ -1446,7 +1448,7 @@ public final class Fencegate {
         private int loadsAt(int cell, int at) {
             int bits = 0;
             for (int thing = 0; thing < things.size; thing++) {
-                if (!things.writes(thing) && things.cell[thing] == cell && spot[thing] == at) {
+                if (!things.writes[thing] && things.cell[thing] == cell && spot[thing] == at) {
                     bits |= 1 << thing;
                 }
             }
