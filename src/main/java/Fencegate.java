@@ -1007,7 +1007,9 @@ public final class Fencegate {
         }
 
         void forget() {
-            Arrays.fill(known, false);
+            for (int kind = 0; kind < KINDS; kind++) {
+                known[kind] = false;
+            }
         }
 
         int fenceOf(int kind, int index) {

@@ -573,6 +573,10 @@ final class FencegateTest {
         Check.same("fences of stores do not, for loads", half.broken('p', 'o'), 0);
         Fencegate wall = Programs.gate("k01 s00 w s10", "l01 l10");
         Check.same("but for stores", wall.broken('p', 'o'), 1);
+        Fencegate both = Programs.gate("k01 s00 f w s10", "l01 l10");
+        Check.same("and one more fence does not undo it", both.broken('p', 'o'), 1);
+        Fencegate jumped = Programs.gate("k01 s00 j14 f l11", "k01 s10 j14 f l10");
+        Check.same("a fence that is jumped over keeps nothing", jumped.broken('t', 'o'), 0);
         Fencegate swaps = Programs.gate("k01 s00 x02 l11", "k01 s10 i02 l10");
         Check.same("swaps and increases keep the order", swaps.broken('t', 'o'), swaps.broken('s', 'o'));
         Fencegate twice = Programs.gate("k01 i00", "k01 i00");
