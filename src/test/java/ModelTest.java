@@ -12,6 +12,7 @@ final class ModelTest {
     private static int tooMany = 0;
     private static int notSmall = 0;
     private static int tooMuch = 0;
+    private static int graphsCompared = 0;
     private static int notSame = 0;
     private static int[] fenced = new int[4];
 
@@ -42,7 +43,8 @@ final class ModelTest {
             compareMachine(name, gate, model);
         }
         System.out.println("compared " + compared + ", too many states " + tooMany + ", too much for graphs " + notSmall
-                + ", too much for the model " + tooMuch + ", not the same " + notSame + ", fences " + Arrays.toString(fenced));
+                + ", too much for the model " + tooMuch + ", outcomes and graphs " + graphsCompared + ", not the same " + notSame
+                + ", fences " + Arrays.toString(fenced));
         Check.holds("programs of all sorts", args.length > 0 || tooMany > 0 && notSmall > 0 && fenced[0] > 0 && fenced[1] > 0
                 && fenced[2] > 0 && fenced[3] > 0);
         Check.report("ModelTest");
@@ -232,6 +234,7 @@ final class ModelTest {
             }
             Model.Found found = model.explore(kind, List.of());
             boolean isSame = found.tooMany || found.runs.keySet().equals(shown);
+            graphsCompared += found.tooMany ? 0 : 1;
             notSame += isSame ? 0 : 1;
             Check.same(name + " isSame " + kind, gate.isSame(kind), isSame);
         }
