@@ -1,3 +1,5 @@
+import java.util.List;
+
 /** The promises one by one: ordinary calls, the edges that the document names, and wrong arguments. */
 final class FencegateTest {
     private static final String INDEX = "IndexOutOfBoundsException";
@@ -7,7 +9,6 @@ final class FencegateTest {
     private static final String ELEMENT = "NoSuchElementException";
     private static final int[] NO_THREE = {-1, 3, Integer.MIN_VALUE, Integer.MAX_VALUE};
     private static final char[] KINDS = {'s', 't', 'p'};
-    private static final char[] NO_KINDS = {'x', 'S', 0, 'q', '\uffff'};
 
     /** Each of two cores stores one cell and loads the other. */
     private static final String[] CROSS = {"k01 s00 l11", "k01 s10 l10"};
@@ -21,8 +22,6 @@ final class FencegateTest {
     public static void main(String[] args) {
         newObject();
         add();
-        addWrongly();
-        addForJumps();
         clear();
         setFirst();
         setKind();
@@ -47,9 +46,6 @@ final class FencegateTest {
         races();
         fences();
         sums();
-        wrongKinds();
-        tooManyStates();
-        exceptionsChangeNothing();
         programsAreForgotten();
         Check.report("FencegateTest");
     }
@@ -100,50 +96,6 @@ final class FencegateTest {
         moved.add(1, 's', 0, 0, 0);
         Check.same("add goes to the first state", moved.place(0) + moved.register(0, 0), 0);
         Check.same("add leaves the kind", moved.setKind('s'), 't');
-    }
-
-    private static void addWrongly() {
-        Fencegate gate = new Fencegate();
-        for (int core : NO_THREE) {
-            Check.fails("add to no core", INDEX, () -> gate.add(core, '?', 9, 9, 9));
-        }
-        for (char letter : new char[] {'?', 'K', 'a', 0, '\uffff', 't', 'p'}) {
-            Check.fails("add no letter", ARGUMENT, () -> gate.add(0, letter, 0, 0, 0));
-        }
-        for (int no : new int[] {-1, 2, Integer.MAX_VALUE, Integer.MIN_VALUE}) {
-            for (char letter : "k+lxij".toCharArray()) {
-                Check.fails("add " + letter + " no register a", ARGUMENT, () -> gate.add(0, letter, no, 1, 0));
-            }
-            Check.fails("add + no register b", ARGUMENT, () -> gate.add(0, '+', 0, no, 0));
-            Check.fails("add + no register c", ARGUMENT, () -> gate.add(0, '+', 0, 0, no));
-            Check.fails("add s no register b", ARGUMENT, () -> gate.add(0, 's', 0, no, 0));
-        }
-        for (int no : NO_THREE) {
-            Check.fails("add s no cell", ARGUMENT, () -> gate.add(0, 's', no, 0, 0));
-            for (char letter : "lxi".toCharArray()) {
-                Check.fails("add " + letter + " no cell", ARGUMENT, () -> gate.add(0, letter, 0, no, 0));
-            }
-        }
-        for (int no : new int[] {-1, 8, Integer.MAX_VALUE, Integer.MIN_VALUE}) {
-            Check.fails("add k no number", ARGUMENT, () -> gate.add(0, 'k', 0, no, 0));
-        }
-        Check.same("nothing has been added", gate.clear(0), 0);
-        Programs.fill(gate, "s00 s00 s00 f f");
-        Check.fails("a number out of range counts first", ARGUMENT, () -> gate.add(0, 'k', 0, 8, 0));
-        Check.fails("a cell out of range counts first", ARGUMENT, () -> gate.add(0, 's', 3, 0, 0));
-    }
-
-    private static void addForJumps() {
-        Fencegate gate = new Fencegate();
-        for (int no : new int[] {-1, 0, 6, Integer.MAX_VALUE, Integer.MIN_VALUE}) {
-            Check.fails("a jump at place 0 to " + no, ARGUMENT, () -> gate.add(0, 'j', 0, no, 0));
-        }
-        for (int place = 0; place < 5; place++) {
-            int own = place;
-            Check.fails("a jump to its own place", ARGUMENT, () -> gate.add(0, 'j', 0, own, 0));
-            Check.same("a jump to the next place", gate.add(0, 'j', 0, place + 1, 0), place);
-        }
-        Check.fails("a jump of a full core has no place to go", ARGUMENT, () -> gate.add(0, 'j', 0, 5, 0));
     }
 
     private static void clear() {
@@ -452,6 +404,21 @@ final class FencegateTest {
         Check.same("the kind that it played", gate.setKind('s'), 't');
         Check.same("play from the first state", gate.play('s', 2), 6);
         Check.same("play nothing", new Fencegate().play('p', 0), 0);
+        // not from where the machine is: another run before must leave nothing
+        for (int index = 0; index < 4; index++) {
+            gate.setKind('p');
+            gate.step(0);
+            gate.step(0);
+            Check.same("play one behind the other", gate.play('t', index), 8);
+            for (int what = 0; what < 4; what++) {
+                Check.same("number " + what, gate.register(what / 2, what % 2), gate.outcomeAt('t', index, what));
+            }
+            Check.same("nothing waits", gate.queue(0) + gate.queue(1), 0);
+        }
+        Fencegate sum = Programs.gate("k03 i00");
+        sum.play('s', 0);
+        sum.play('s', 0);
+        Check.same("a run twice is as a run once", sum.cell(0), 3);
     }
 
     private static void states() {
@@ -698,117 +665,20 @@ final class FencegateTest {
         Check.same("a mean with a fraction", Programs.gate("l10 j13 f", "k01 s00", "k02 s00").meanLength('s'), 40.0 / 6.0);
         Fencegate thirds = Programs.gate("k01 s00 l01 l11", "k01 s10 l10");
         Check.same("a share with a fraction", thirds.strictShare('t'), 4.0f / 6.0f);
+        Fencegate single = Programs.gate("k07 s00");
+        Check.same("all steps of one outcome", single.allSteps('s') * 10 + single.allSteps('t'), 23L);
+        Check.same("the mean of one", single.meanLength('s') * 10 + single.meanLength('p'), 23.0);
+        Check.same("the share of one", single.strictShare('p'), 1.0f);
+        Fencegate none = Programs.gate("s00 l01 j05 k15", "s10 l00 j05 k15");
+        none.setFirst(0, 1);
+        none.setFirst(1, 1);
+        Check.same("three of four are strict", none.strictShare('t'), 0.75f);
         Check.same("nothing", new Fencegate().allSteps('t'), 0L);
         Check.same("the mean of nothing", new Fencegate().meanLength('t'), 0.0);
         Check.same("the share of nothing", new Fencegate().strictShare('p'), 1.0f);
     }
 
     // ---- all of them
-
-    private static void wrongKinds() {
-        for (Fencegate gate : new Fencegate[] {new Fencegate(), Programs.gate(FAR_TOO_MANY), tooMuch()}) {
-            for (char kind : NO_KINDS) {
-                Check.fails("setKind", ARGUMENT, () -> gate.setKind(kind));
-                Check.fails("play", ARGUMENT, () -> gate.play(kind, 9));
-                Check.fails("states", ARGUMENT, () -> gate.states(kind));
-                Check.fails("outcomes", ARGUMENT, () -> gate.outcomes(kind));
-                Check.fails("outcomeAt", ARGUMENT, () -> gate.outcomeAt(kind, 9, 0));
-                Check.fails("shortest", ARGUMENT, () -> gate.shortest(kind, 9));
-                Check.fails("stepAt", ARGUMENT, () -> gate.stepAt(kind, 9, 9));
-                Check.fails("isStrict", ARGUMENT, () -> gate.isStrict(kind, 9));
-                Check.fails("broken", ARGUMENT, () -> gate.broken(kind, 'c'));
-                Check.fails("allowed", ARGUMENT, () -> gate.allowed(kind));
-                Check.fails("isAllowed", ARGUMENT, () -> gate.isAllowed(kind, 9, 0, 0));
-                Check.fails("isSame", ARGUMENT, () -> gate.isSame(kind));
-                Check.fails("fences", ARGUMENT, () -> gate.fences(kind));
-                Check.fails("fenceAt", ARGUMENT, () -> gate.fenceAt(kind, 9));
-                Check.fails("allSteps", ARGUMENT, () -> gate.allSteps(kind));
-                Check.fails("strictShare", ARGUMENT, () -> gate.strictShare(kind));
-                Check.fails("meanLength", ARGUMENT, () -> gate.meanLength(kind));
-            }
-            Check.fails("the rule counts before too much", ARGUMENT, () -> gate.broken('s', 'x'));
-        }
-    }
-
-    private static void tooManyStates() {
-        Fencegate gate = Programs.gate(FAR_TOO_MANY);
-        for (char kind : new char[] {'t', 'p'}) {
-            Check.fails("play", UNSUPPORTED, () -> gate.play(kind, -1));
-            Check.fails("states", UNSUPPORTED, () -> gate.states(kind));
-            Check.fails("outcomes", UNSUPPORTED, () -> gate.outcomes(kind));
-            Check.fails("outcomeAt", UNSUPPORTED, () -> gate.outcomeAt(kind, -1, 0));
-            Check.fails("outcomeAt nothing", ARGUMENT, () -> gate.outcomeAt(kind, -1, 9));
-            Check.fails("shortest", UNSUPPORTED, () -> gate.shortest(kind, -1));
-            Check.fails("stepAt", UNSUPPORTED, () -> gate.stepAt(kind, -1, 0));
-            Check.fails("isStrict", UNSUPPORTED, () -> gate.isStrict(kind, -1));
-            Check.fails("fences", UNSUPPORTED, () -> gate.fences(kind));
-            Check.fails("fenceAt", UNSUPPORTED, () -> gate.fenceAt(kind, -1));
-            Check.fails("allSteps", UNSUPPORTED, () -> gate.allSteps(kind));
-            Check.fails("strictShare", UNSUPPORTED, () -> gate.strictShare(kind));
-            Check.fails("meanLength", UNSUPPORTED, () -> gate.meanLength(kind));
-        }
-        Fencegate much = tooMuch();
-        for (char kind : KINDS) {
-            Check.fails("broken", UNSUPPORTED, () -> much.broken(kind, 'a'));
-            Check.fails("allowed", UNSUPPORTED, () -> much.allowed(kind));
-            Check.fails("isAllowed", UNSUPPORTED, () -> much.isAllowed(kind, 0, 0, 0));
-        }
-        Fencegate strict = new Fencegate();
-        strict.setFirst(0, 5);
-        Programs.fill(strict, "i00 x10 i02 x12 i11", "i00 x10 i01 x12 i11", "i10 x00 x01 i11 i02");
-        Check.fails("too many strict states", UNSUPPORTED, () -> strict.states('s'));
-        Check.fails("races", UNSUPPORTED, strict::races);
-        Check.fails("raceAt", UNSUPPORTED, () -> strict.raceAt(-1));
-        Check.fails("fences", UNSUPPORTED, () -> strict.fences('s'));
-    }
-
-    private static void exceptionsChangeNothing() {
-        Fencegate gate = Programs.gate("k03 s00 w s10 f", "l00");
-        gate.setKind('p');
-        for (int i = 0; i < 4; i++) {
-            gate.step(0);
-        }
-        String before = textOf(gate);
-        Check.of(() -> gate.add(0, 'k', 0, 0, 0));
-        Check.of(() -> gate.add(1, 'k', 0, 9, 0));
-        Check.of(() -> gate.add(4, 'k', 0, 0, 0));
-        Check.of(() -> gate.clear(-1));
-        Check.of(() -> gate.setFirst(3, 0));
-        Check.of(() -> gate.setFirst(0, 8));
-        Check.of(() -> gate.setKind('x'));
-        Check.of(() -> gate.step(2));
-        Check.of(() -> gate.drain(0, 2));
-        Check.of(() -> gate.play('t', 99));
-        Check.of(() -> gate.play('x', 0));
-        Check.of(() -> gate.outcomeAt('t', 99, 0));
-        Check.same("looking changes nothing", gate.outcomes('t') + gate.graphs() + gate.races() + gate.fences('p') > 0, true);
-        Check.same("what could not be done changes nothing", gate.step(0), false);
-        Check.same("what could not leave changes nothing", gate.drain(0, 1), false);
-        Check.same("nothing has changed", textOf(gate), before);
-        Check.same("not the program either", gate.clear(0) * 10 + gate.clear(1), 51);
-        Check.same("nor the kind", gate.setKind('s'), 'p');
-
-        Fencegate stores = Programs.gate("s00 s10 s21");
-        Check.fails("a fourth store", STATE, () -> stores.add(0, 's', 0, 0, 0));
-        Check.same("three are left", stores.clear(0), 3);
-        Fencegate many = Programs.gate(FAR_TOO_MANY);
-        many.step(0);
-        Check.fails("too many", UNSUPPORTED, () -> many.play('p', 0));
-        Check.same("not played", many.place(0) * 10 + many.register(0, 0), 11);
-        Check.same("the kind is left", many.setKind('s'), 's');
-    }
-
-    private static String textOf(Fencegate gate) {
-        StringBuilder text = new StringBuilder();
-        for (int core = 0; core < 3; core++) {
-            text.append(gate.place(core)).append(gate.register(core, 0)).append(gate.register(core, 1));
-            text.append(gate.cell(core)).append(':');
-            for (int i = 0; i < gate.queue(core); i++) {
-                text.append(gate.storeAt(core, i)).append(' ');
-            }
-        }
-        return text.append(gate.choices()).toString();
-    }
 
     /** What has been found for a program must not be answered for the next one. */
     private static void programsAreForgotten() {
@@ -829,5 +699,42 @@ final class FencegateTest {
         Check.same("outcomes", gate.outcomes('t'), 2);
         Check.same("allowed", gate.allowed('t'), 2);
         Check.same("races", gate.races(), 1);
+
+        // programs of all sizes, one behind the other on one object, must answer as on a new one each
+        String[][] programs = {
+            {"s00 s00 s00 l00 l00", "s00 s00 s00 l00 l00", "s00"}, {"k01 s00 k11 s11", "l01 j05 l10"}, CROSS, MESSAGE,
+            {"f s00", "s00 f s00", "l00"}, {"f", "s00", "f"}, {"s00", "f", "f"}, {"l00 s00 l10 s01", "l00 s10", "k01 s00"},
+            FAR_TOO_MANY, {"i00 x10", "x00 i10"}, {}, {"l00 l00 l00", "l00 l00"}, {"l00 l11 j15 s20 l02", "k01 s00 s10"},
+            {"k01 s00 l11", "k01 s10 l12", "k01 s20 l10"}, {"k01 s00 k05 l11", "k01 s10 f l10"}, {"s00 s00", "s00"}, CROSS, {},
+        };
+        Fencegate used = new Fencegate();
+        for (String[] program : programs) {
+            Programs.fill(used, program);
+            Check.same("answers for " + String.join(" | ", program), answersOf(used), answersOf(Programs.gate(program)));
+            Check.same("the same answers again", answersOf(used), answersOf(used));
+        }
+    }
+
+    private static String answersOf(Fencegate gate) {
+        StringBuilder text = new StringBuilder();
+        text.append(Check.of(gate::graphs)).append(' ').append(Check.of(gate::races)).append(" races");
+        for (int i = 0; Check.of(gate::races) instanceof Integer size && i < size; i++) {
+            text.append(' ').append(gate.raceAt(i));
+        }
+        for (char kind : KINDS) {
+            text.append('\n').append(kind).append(gate.isSame(kind));
+            List<Check.Call> calls = List.of(() -> gate.states(kind), () -> gate.allSteps(kind), () -> gate.strictShare(kind),
+                    () -> gate.meanLength(kind), () -> gate.fences(kind), () -> gate.fenceAt(kind, 0),
+                    () -> gate.fenceAt(kind, 1), () -> gate.broken(kind, 'c'), () -> gate.broken(kind, 'a'),
+                    () -> gate.broken(kind, 'o'), () -> gate.allowed(kind), () -> gate.isAllowed(kind, 1, 1, 0));
+            calls.forEach(it -> text.append(' ').append(Check.of(it)));
+            for (int i = 0; Check.of(() -> gate.outcomes(kind)) instanceof Integer size && i < size; i++) {
+                text.append(' ').append(gate.shortest(kind, i)).append(gate.isStrict(kind, i));
+                for (int what = 0; what < 9; what++) {
+                    text.append(gate.outcomeAt(kind, i, what));
+                }
+            }
+        }
+        return text.toString();
     }
 }
