@@ -347,6 +347,10 @@ final class EdgeTest {
                 Check.same("second " + no, ended().isAllowed(kind, 2, 0, no), false);
             }
             Check.holds("0 and 0", ended().isAllowed(kind, 2, 0, 0));
+            for (int core = 0; core < 3; core++) {
+                Check.same("not 7 and 7", ended().isAllowed(kind, core, 7, 7), false);
+                Check.same("not 7 and 0", ended().isAllowed(kind, core, 7, 0), false);
+            }
             Check.holds("7 and 7", Programs.gate("", "", "k07 k17").isAllowed(kind, 2, 7, 7));
             Check.holds("each rule", ended().broken(kind, 'c') + ended().broken(kind, 'a') + ended().broken(kind, 'o') >= 0);
         }

@@ -498,6 +498,16 @@ final class FencegateTest {
         for (int i = 0; i < 3; i++) {
             Check.holds("the strict ones are", gate.isStrict('s', i));
         }
+        // the last outcome of the first program is strict, and the same one of the second program is not
+        Fencegate used = Programs.gate("l11 s00", "s10 l10");
+        used.setFirst(0, 1);
+        used.setFirst(1, 1);
+        Check.same("all four", used.outcomes('s') * 10 + used.outcomes('t'), 44);
+        Check.holds("both load 1", used.isStrict('t', 3));
+        Programs.fill(used, "s00 l11", "s10 l10");
+        Check.same("three of four", used.outcomes('s') * 10 + used.outcomes('t'), 34);
+        Check.same("both load 1, but not strictly", used.isStrict('t', 3), false);
+        Check.same("their share", used.strictShare('t'), 0.75f);
     }
 
     // ---- promises 21 to 25
@@ -723,8 +733,8 @@ final class FencegateTest {
         }
         for (char kind : KINDS) {
             text.append('\n').append(kind).append(gate.isSame(kind));
-            List<Check.Call> calls = List.of(() -> gate.states(kind), () -> gate.allSteps(kind), () -> gate.strictShare(kind),
-                    () -> gate.meanLength(kind), () -> gate.fences(kind), () -> gate.fenceAt(kind, 0),
+            List<Check.Call> calls = List.of(() -> gate.states(kind), () -> gate.allSteps(kind),
+                    () -> gate.strictShare(kind), () -> gate.meanLength(kind), () -> gate.fences(kind), () -> gate.fenceAt(kind, 0),
                     () -> gate.fenceAt(kind, 1), () -> gate.broken(kind, 'c'), () -> gate.broken(kind, 'a'),
                     () -> gate.broken(kind, 'o'), () -> gate.allowed(kind), () -> gate.isAllowed(kind, 1, 1, 0));
             calls.forEach(it -> text.append(' ').append(Check.of(it)));

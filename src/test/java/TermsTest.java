@@ -695,6 +695,12 @@ final class TermsTest {
         // r1 = 0: two graphs, and nothing is stored; r1 = 1: the load of cell 2 reads 0 or what is stored, 2 + 2 graphs
         Fencegate some = Programs.gate("l00 l11 j15 s20 l02", "k01 s00 s10");
         Check.same("what is jumped over does nothing", some.graphs(), 6);
+        // with r1 = 1 there is a swap at the end of core 2, with 0 there is none, and r0 stays what it was
+        Fencegate swap = Programs.gate("k01 s00 s10", "", "l00 l11 j14 x02");
+        for (char kind : KINDS) {
+            Check.holds("a swap that is jumped over", swap.isAllowed(kind, 2, 1, 0) && swap.isAllowed(kind, 2, 0, 0));
+            Check.same("four ways", swap.allowed(kind), 4);
+        }
         Check.same("a load ahead of a jump of its own", Programs.gate("l00 j03 l01 l02").graphs(), 1);
         Check.same("each number leads its own way", Programs.gate("l00 j03 s10 s20", "s00", "k01 s00").graphs(), 2 * 3);
     }
