@@ -7,7 +7,7 @@ import java.util.TreeSet;
 /** Many small programs, made by a row of numbers that is always the same; Fencegate and the model are asked the same. */
 final class ModelTest {
     private static final char[] KINDS = {'s', 't', 'p'};
-    private static long seed = 1;
+    private static Pick picks = new Pick(1);
     private static int compared = 0;
     private static int tooMany = 0;
     private static int notSmall = 0;
@@ -17,16 +17,13 @@ final class ModelTest {
     private static int[] fenced = new int[4];
 
     private static int pick(int end) {
-        seed += 0x9E3779B97F4A7C15L;
-        long mixed = (seed ^ seed >>> 30) * 0xBF58476D1CE4E5B9L;
-        mixed = (mixed ^ mixed >>> 27) * 0x94D049BB133111EBL;
-        return (int) ((mixed >>> 33) % end);
+        return picks.below(end);
     }
 
     /** Without arguments, some 900 programs; else how many, and a number that leads to others. */
     public static void main(String[] args) {
         int programs = args.length > 0 ? Integer.parseInt(args[0]) : 900;
-        seed = args.length > 1 ? Long.parseLong(args[1]) : 1;
+        picks = new Pick(args.length > 1 ? Long.parseLong(args[1]) : 1);
         Fencegate used = new Fencegate();
         for (int i = 0; i < programs; i++) {
             int style = i % 7;
